@@ -516,10 +516,10 @@ public final class ClusterHeap {
     // Callers look whether the row has a first.
     private int takeFirst(int r) {
         int first = row[r * MACHINES];
-        rowLength[r]--;
-        for (int k = 0; k < rowLength[r]; k++) {
-            row[r * MACHINES + k] = row[r * MACHINES + k + 1];
+        for (int k = 1; k < MACHINES; k++) {
+            row[r * MACHINES + k - 1] = row[r * MACHINES + k];
         }
+        rowLength[r]--;
         return first;
     }
 
