@@ -1,21 +1,15 @@
-import java.io.IOException;
 import java.lang.reflect.Constructor;
 import java.lang.reflect.Field;
 import java.lang.reflect.Method;
 import java.lang.reflect.Modifier;
-import java.nio.file.Files;
-import java.nio.file.Path;
 import java.util.Arrays;
 import java.util.HashSet;
 import java.util.List;
 import java.util.Set;
 import java.util.TreeSet;
-import java.util.regex.Pattern;
 
-/** The public face of the document, and the rules of LANGUAGE.md that a look at the class can test. */
+/** The public face of the document, and the rules of LANGUAGE.md that can be seen in the class file. */
 public final class FaceTest {
-    private static final String SOURCE = "src/main/java/ClusterHeap.java";
-
     private static final Set<String> METHODS = new TreeSet<>(List.of(
         "boolean mode(int, boolean)",
         "long read(int, int)",
@@ -44,18 +38,10 @@ public final class FaceTest {
         int.class, long.class, short.class, byte.class, char.class, boolean.class,
         int[].class, long[].class, short[].class, byte[].class, char[].class, boolean[].class);
 
-    private static final String[] FORBIDDEN = {
-        "import", "package", "null", "throw", "try", "catch", "synchronized", "assert", "instanceof",
-        "float", "double", "String", "Math", "Integer", "Long", "System", "Arrays", "Object", "record",
-        "enum", "interface", "protected", "this\\.getClass", "hashCode", "equals", "toString", "->", "::",
-        "static\\s*\\{", "\\[\\s*\\]\\s*\\[", "@"
-    };
-
-    public static void main(String[] args) throws IOException {
+    public static void main(String[] args) {
         constants();
         methods();
         members();
-        source();
         Due.end();
     }
 
@@ -125,20 +111,6 @@ public final class FaceTest {
             }
         }
         Due.isTrue("rule 10: fields " + fields, fields <= 40);
-    }
-
-    private static void source() throws IOException {
-        Due.part("rules of the source");
-        String text = Files.readString(Path.of(SOURCE)).replaceAll("//[^\n]*", "");
-        for (String word : FORBIDDEN) {
-            String edge = Character.isLetter(word.charAt(0)) ? "\\b" : "";
-            Due.isFalse(word + " stands in it", Pattern.compile(edge + word + edge).matcher(text).find());
-        }
-        for (String line : text.split("\n")) {
-            boolean makes = line.contains("new ");
-            Due.isTrue("rule 4: " + line.trim(),
-                !makes || line.matches("    private final \\w+\\[\\] \\w+ = new \\w+\\[[A-Z_]+\\];"));
-        }
     }
 
     private static String signature(Method m) {

@@ -25,7 +25,7 @@ public final class ModelTest {
                 }
             }
         }
-needs("full", Seen.full > 0);
+        needs("full", Seen.full > 0);
         needs("races", Seen.races > 0);
         needs("tidied accesses", Seen.tidied > 0);
         needs("rings", Seen.rings > 0);
