@@ -11,7 +11,7 @@ import java.util.List;
  * with a fixed start, so each time they are the same.
  */
 public final class AnyCallTest {
-    private static final int OBJECTS = 200;
+    private static final int OBJECTS = 2000;
     private static final int CALLS = 3000;
     private static final int[] ODD = {
         Integer.MIN_VALUE, -64, -8, -4, -2, -1, 4, 5, 8, 9, 32, 64, 65, 299, 300, 301, Integer.MAX_VALUE};
@@ -19,22 +19,42 @@ public final class AnyCallTest {
     private static long seed = 20261115L;
 
     public static void main(String[] args) throws IllegalAccessException {
-        List<Method> methods = openMethods();
+        List<Method> open = openMethods();
+        int full = 0;
+        int rounds = 0;
         for (int object = 0; object < OBJECTS && Due.wrongSoFar() == 0; object++) {
             Due.part("object " + object);
+            ClusterHeap heap = new ClusterHeap();
             // Few odd numbers bring an object far, many try its bounds.
-            int oddOfTen = object % 10;
-            ClusterHeap one = new ClusterHeap();
-            ClusterHeap two = new ClusterHeap();
-            for (int i = 0; i < CALLS && Due.wrongSoFar() == 0; i++) {
-                Method method = methods.get(below(methods.size()));
-                Object[] given = arguments(method, oddOfTen);
-                Object first = answer(method, one, given);
-                Object second = answer(method, two, given);
-                Due.isTrue("call " + i + ", " + method.getName() + List.of(given) + ", answers alike", first.equals(second));
+            twins(heap, new ClusterHeap(), mixOf(open), object % 10);
+            full += heap.total(0) == 300 ? 1 : 0;
+            rounds += heap.total(1);
+        }
+        Due.part("objects");
+        Due.isTrue("some come to 300 accesses", full > 0);
+        Due.isTrue("some come to rounds", rounds > 0);
+        Due.end();
+    }
+
+    private static void twins(ClusterHeap one, ClusterHeap two, List<Method> mix, int oddOfTen) throws IllegalAccessException {
+        for (int i = 0; i < CALLS && Due.wrongSoFar() == 0; i++) {
+            Method method = mix.get(below(mix.size()));
+            Object[] given = arguments(method, oddOfTen);
+            Object first = answer(method, one, given);
+            Object second = answer(method, two, given);
+            Due.isTrue("call " + i + ", " + method.getName() + List.of(given) + ", answers alike", first.equals(second));
+        }
+    }
+
+    /** Each method not at all up to three times: with all of them alike, all machines soon stand still. */
+    private static List<Method> mixOf(List<Method> open) {
+        List<Method> mix = new ArrayList<>();
+        for (Method method : open) {
+            for (int times = below(4); times > 0; times--) {
+                mix.add(method);
             }
         }
-        Due.end();
+        return mix.isEmpty() ? open : mix;
     }
 
     /** In the order of their names, as reflection promises none. */
